@@ -69,7 +69,7 @@ public final class Promises {
         WorksCouncil x = new WorksCouncil();
         for (int what = 0; what <= 16; what++) due("count(" + what + ")", x.count(what), 0);
         due("votes", x.votes(3, 0), 0);
-        due("contract", x.contract(7, -1, 0), -1);
+        for (int what = 0; what < 8; what++) due("contract", x.contract(what, -1, 0), -1);
         due("goes", x.goes(0, 24, 0), -9);
         due("set 0", x.set(0, 3), 3);
         due("set 1", x.set(1, 30), 30);
@@ -114,6 +114,8 @@ public final class Promises {
         x.days(10);
         due("feast(3)", x.feast(3), 1);
         due("feast(5)", x.feast(5), 1);
+        due("feast(8)", x.feast(11), 1);
+        due("the last workday of a week", x.workdays(7, 13), 3);
         due("workdays(0, 7)", x.workdays(0, 7), 4);
         due("workdays(3, 7)", x.workdays(3, 7), 2);
         due("workdays(2, 3)", x.workdays(2, 3), 0);
@@ -238,6 +240,14 @@ public final class Promises {
         due("less", holds(x, "1<1", 1, 0, false), 0);
         due("more", holds(x, "1>1", 1, 0, false), 0);
         due("! in the second", holds(x, "1=0|!(1=0|!1=1)", 1, 0, false), 1);
+        WorksCouncil y = new WorksCouncil();
+        due("| in ( )", holds(y, "(1=1|1=0)", 1, 0, false), 1);
+        due("| in ( )", holds(y, "(1=0|1=1)&1=1", 1, 0, false), 1);
+        due("| in ( ), behind &", holds(y, "1=1&(1=0|1=0)", 1, 0, false), 0);
+        due("( ) in ( )", holds(y, "((1=1&(1=0|1=1))&1=1)|1=0", 1, 0, false), 1);
+        due("!!!", holds(y, "!!!1=0", 1, 0, false), 1);
+        due("! of one alone", holds(y, "!1=0|1=1&1=0", 1, 0, false), 1);
+        due("four digits", holds(y, "0012=12", 1, 0, false), 1);
     }
 
     private static void strikesAndKinds() {
@@ -417,14 +427,57 @@ public final class Promises {
         due("lets", x.matterOf(0, 3), 1);
         due("asked, passed", x.matterOf(1, 3), 1);
         due("joint, running", x.matterOf(2, 3), 0);
-        due("urgent, refused", x.matterOf(3, 3), 1);
+        due("urgent, running by the feast", x.matterOf(3, 3), 1);
         due("free, withdrawn", x.matterOf(4, 3), 0);
         due("tellings", x.matterOf(0, 4), 3);
         due("its act", x.matterOf(2, 5), 2);
+        lettings();
+        promise = "promise 16";
         due("no act", x.matterOf(4, 5), -9);
         due("no matter", x.matterOf(5, 9), -1);
         due("what", x.matterOf(0, 6), -2);
         due("what", x.matterOf(0, -1), -2);
+    }
+
+    /** Whether each state of each kind lets. */
+    private static void lettings() {
+        promise = "promise 16, lets";
+        WorksCouncil x = seated();
+        for (int kind = 1; kind < 5; kind++) x.term(kind, 0, 1);
+        for (int what = 0; what < 5; what++) x.open(what, 1, 0, false);
+        int[] notWhole = {0, 0, 0, 1, 1};
+        for (int m = 0; m < 5; m++) due("not whole, or free", x.matterOf(m, 3), notWhole[m]);
+        for (int m = 0; m < 4; m++) x.paper(m, 0, true);
+        int[] whole = {1, 0, 0, 1, 1};
+        for (int m = 0; m < 5; m++) due("whole", x.matterOf(m, 3), whole[m]);
+        x.session(0, 1);
+        for (int m = 1; m < 4; m++) x.vote(m, 1, 0);
+        for (int m = 1; m < 4; m++) due("answered yes", x.matterOf(m, 3), 1);
+        x.voids(0);
+    }
+
+    /** The same for answers that say no, rulings and silence. */
+    private static void lettingsOfNo() {
+        promise = "promise 16, lets";
+        WorksCouncil x = seated();
+        for (int what = 1; what < 4; what++) x.open(what, 1, 0, false);
+        x.session(0, 7);
+        for (int m = 0; m < 3; m++) x.vote(m, 0, 7);
+        for (int m = 0; m < 3; m++) due("answered no", x.matterOf(m, 3), m == 0 ? 1 : 0);
+        for (int m = 1; m < 3; m++) x.board(m, 2, 2, false);
+        for (int m = 1; m < 3; m++) due("ruled yes", x.matterOf(m, 3), 1);
+        for (int m = 1; m < 3; m++) x.court(m);
+        for (int m = 1; m < 3; m++) x.board(m, 0, 0, false);
+        for (int m = 1; m < 3; m++) due("ruled no", x.matterOf(m, 3), 0);
+        for (int silence = 0; silence < 2; silence++) {
+            for (int kind = 2; kind < 5; kind++) x.term(kind, 2, silence);
+            for (int what = 1; what < 4; what++) x.open(what, 1, 0, false);
+        }
+        x.days(20);
+        for (int m = 3; m < 6; m++) due("refused by silence", x.matterOf(m, 3), 0);
+        for (int m = 6; m < 9; m++) due("passed by silence", x.matterOf(m, 3), 1);
+        for (int m = 6; m < 9; m++) x.withdraw(m);
+        for (int m = 6; m < 9; m++) due("withdrawn", x.matterOf(m, 3), 0);
     }
 
     private static void seats() {
@@ -481,6 +534,7 @@ public final class Promises {
         due("told on, if left", x.seat(0, 1), 1);
         x.elect(3);
         due("nobody sits then", x.seat(0, 1), -9);
+        for (int i = 0; i < 3; i++) due("elected anew", x.seat(i, 0), i == 2 ? 1 : 0);
     }
 
     private static void sessions() {
@@ -521,9 +575,19 @@ public final class Promises {
         due("what", x.sessionOf(0, -1), -2);
         for (int i = 6; i < 30; i++) due("session", x.session(1, 0), i);
         due("the 31st", x.session(1, 0), -6);
+        due("count(16)", x.count(16), 1);
         due("the 31st, wrong", x.session(5, 0), -3);
         due("count(5)", x.count(5), 30);
         promise = "promise 21";
+        WorksCouncil z = usual();
+        z.set(0, 0);
+        z.votes(0, 10);
+        z.elect(4);
+        for (int i = 0; i < 3; i++) z.sit(i, i);
+        z.session(0, 3);
+        z.session(0, 7);
+        due("half of four is not more", z.sessionOf(0, 2), 0);
+        due("three of four", z.sessionOf(1, 2), 1);
         WorksCouncil y = usual();
         y.days(9);
         y.session(0, 0);
@@ -771,6 +835,7 @@ public final class Promises {
         x.set(1, 0);
         x.cancel(3);
         due("never in force", x.worth(0, 2, 21, 0), 50);
+        due("another one of the same end, none behind it", x.worth(0, 2, 21, 1), 0);
         x.cancel(0);
         due("ended ahead of its first day", x.worth(0, 2, 4, 0), -9);
         due("the other's end", x.worth(0, 2, 21, 0), 80);
@@ -782,6 +847,14 @@ public final class Promises {
         due("day", x.worth(0, 0, -1, 0), -4);
         due("day", x.worth(0, 0, 1001, 0), -6);
         due("last day", x.worth(0, 2, 1000, 0), 80);
+        WorksCouncil y = letBySilence();
+        for (int i = 0; i < 2; i++) y.open(2, 1, 0, false);
+        y.days(1);
+        y.after(2, true);
+        y.agree(0, 30, 2, 9);
+        y.agree(1, 20, 4, 9);
+        y.agree(2, 10, 3, 8);
+        due("ended last, of several the greatest number", y.worth(0, 2, 10, 1), 1);
     }
 
     private static void boardsAndCourts() {
@@ -803,8 +876,15 @@ public final class Promises {
         due("three", x.board(1, 1, 1, true), 1);
         due("ruled yes", x.state(1, 0, 0), 8);
         due("ruled", x.board(1, 1, 1, true), -3);
-        due("two", x.board(2, 1, 1, false), 0);
+        due("two with the chair", x.board(2, 1, 0, true), 0);
         due("ruled no", x.state(2, 0, 0), 9);
+        WorksCouncil z = usual();
+        z.open(2, 1, 0, false);
+        z.days(20);
+        due("refused by silence, two", z.board(0, 2, 0, false), 0);
+        due("the first telling", z.state(0, 20, 20), 9);
+        due("court", z.court(0), 1);
+        due("council and chair", z.board(0, 0, 2, true), 1);
         promise = "promise 33";
         due("no matter", x.court(3), -1);
         due("no matter", x.court(-1), -1);
@@ -871,8 +951,9 @@ public final class Promises {
         due("free now", x.deedOf(x.deed(-1, 2, 1, 0), 2), -9);
         actOf(x, "G4:u=1", 2);
         due("urgent is not told", x.deedOf(x.deed(-1, 6, 1, 0), 2), -9);
+        due("kind 1 is enough", x.deedOf(x.deed(-1, 0, 1, 0), 2), 2);
         promise = "promise 36";
-        due("no deed", x.hang(8, 0), -1);
+        due("no deed", x.hang(9, 0), -1);
         due("no deed", x.hang(-1, 1), -1);
         due("below", x.hang(0, 0), -4);
         due("above", x.hang(0, 10000), -6);
@@ -909,7 +990,9 @@ public final class Promises {
         x.days(1);
         x.hang(0, 8);
         due("lost", x.deedOf(0, 4), 12);
+        due("hung, of day 0 too", x.deedOf(0, 3), 15);
         x.feast(1);
+        due("day 1 is no workday any more", x.workdays(0, 4), 3);
         due("a feast: a day later", x.deedOf(0, 2), 3);
         due("lost", x.deedOf(0, 4), 8);
         x.feast(2);
@@ -921,6 +1004,12 @@ public final class Promises {
         due("answered yes", x.deedOf(0, 2), -9);
         x.withdraw(0);
         due("withdrawn", x.deedOf(0, 2), 23);
+        WorksCouncil v = usual();
+        v.term(4, 1, 0);
+        v.open(3, 1, 10, false);
+        v.deed(0, 3, 1, 10);
+        v.days(3);
+        due("span 0", v.deedOf(0, 2), 1);
         WorksCouncil y = seated();
         y.open(3, 1, 10, false);
         y.deed(0, 3, 1, 10);
@@ -939,6 +1028,14 @@ public final class Promises {
         y.days(1);
         y.court(0);
         due("fallen", y.deedOf(1, 2), 32);
+        WorksCouncil z = usual();
+        z.days(990);
+        z.open(3, 1, 0, false);
+        z.deed(0, 3, 1, 0);
+        z.days(10);
+        due("the last workday of all", z.deedOf(0, 2), 998);
+        z.feast(994);
+        due("no workday is left", z.deedOf(0, 2), -9);
     }
 
     private static WorksCouncil team() {
@@ -1037,6 +1134,41 @@ public final class Promises {
         checkTable(x, 4, "nnxx nxxn xxnn xnnx");
     }
 
+    /** Answers of one search must not stand for another's. */
+    private static void searchesApart() {
+        promise = "promise 39, apart";
+        WorksCouncil x = team();
+        for (int i = 0; i < 4; i++) x.person(1, -9000, 0, 0, 0);
+        String wanted = "xnle";
+        for (int p = 5; p < 9; p++) {
+            for (int shift = 0; shift < 3; shift++) {
+                if ("elnx".charAt(shift) != wanted.charAt(p - 5)) x.wish(p, 2, shift, true);
+            }
+        }
+        due("shop 0", x.shifts(0, 2), 0);
+        due("shop 1", x.shifts(1, 2), 0);
+        for (int p = 5; p < 9; p++) due("the last arrangement", x.shiftOf(1, 2, p, 2), "elnx".indexOf(wanted.charAt(p - 5)));
+        due("shop 0 again", x.shiftOf(0, 2, 0, 2), 0);
+        due("most 3", x.shifts(0, 2), 0);
+        x.set(4, 2);
+        due("most 2", x.shifts(0, 2), -9);
+        x.set(4, 4);
+        due("most 4", x.shifts(0, 2), 0);
+        checkTable(x, 2, "elnx elnx elnx elnx");
+        x.wish(0, 0, 0, true);
+        x.wish(0, 0, 1, true);
+        x.wish(0, 0, 2, true);
+        due("bars do not hang on wishes", x.bars(0), -9);
+        due("wishes anew", x.shifts(0, 2), 0);
+        checkTable(x, 2, "xeln elnx elnx elnx");
+        x.wish(0, 0, 0, false);
+        due("taken back", x.shiftOf(0, 2, 0, 0), 0);
+        for (int p = 0; p < 4; p++) for (int day = 0; day < 4; day++) for (int shift = 0; shift < 3; shift++) x.wish(p, day, shift, true);
+        due("all broken", x.shifts(0, 7), 12);
+        x.person(2, -9000, 0, 0, 0);
+        due("all broken", x.shifts(0, 5), 12);
+    }
+
     private static void bars() {
         promise = "promise 41";
         WorksCouncil x = team();
@@ -1098,6 +1230,11 @@ public final class Promises {
         due("a tenth", x.changed(1, 111, 2), 0);
         due("a tenth", x.changed(1, 112, 2), 1);
         due("same", x.changed(1, 100, 2), 0);
+        for (int v : new int[] {110, 110, 110}) x.study(2, v);
+        for (int v : new int[] {111, 111, 111}) x.study(3, v);
+        due("just a tenth", x.changed(2, 100, 2), 0);
+        due("one more", x.changed(3, 100, 2), 1);
+        due("the greatest", x.changed(1, 999, 2), 1);
         due("no time", x.changed(1, 1, 1), 0);
         due("no piece", x.changed(5, 0, 0), -1);
         due("no piece", x.changed(-1, 1, 0), -1);
@@ -1143,6 +1280,12 @@ public final class Promises {
         due("age, the day ahead", x.points(0), 27);
         x.days(1);
         due("age now", x.points(0), 28);
+        x.weight(0, 0);
+        x.weight(1, 1);
+        x.days(64);
+        due("years, the day ahead: 284 and 3000", x.points(0), 8);
+        x.days(1);
+        due("years now: 285 and 3000", x.points(0), 9);
         promise = "promise 46 and 47";
         WorksCouncil y = usual();
         for (int i = 0; i < 3; i++) y.weight(i, 0);
@@ -1153,9 +1296,15 @@ public final class Promises {
         due("below", y.right(0, 0, -1), -4);
         due("children", y.right(0, 0, 10), -6);
         due("hurt", y.right(0, 1, 101), -6);
+        due("hurt 100", y.right(3, 1, 100), 0);
+        due("hurt 0", y.right(3, 1, 0), 100);
+        due("children 9", y.right(3, 0, 9), 0);
+        due("children 0", y.right(3, 0, 0), 9);
         due("right", y.right(1, 1, 40), 30);
+        due("of person 0", y.right(0, 1, 77), 0);
         due("without a list", y.points(1), 40);
         due("list", y.list(), 1);
+        due("of person 0, by the list", y.points(0), 77);
         y.days(14);
         due("in time", y.right(1, 1, 50), 40);
         due("points", y.points(1), 50);
@@ -1174,6 +1323,13 @@ public final class Promises {
         y.right(1, 1, 62);
         due("list", y.list(), 1);
         due("what was so when it was told", y.points(1), 62);
+        y.set(2, 14);
+        y.days(15);
+        y.right(0, 1, 5);
+        due("too late", y.points(0), 77);
+        due("list", y.list(), 1);
+        due("what was so when it was told", y.points(0), 5);
+        y.set(2, 0);
         due("for all", y.points(4), 80);
         due("on its day", y.right(4, 1, 81), 80);
         due("points", y.points(4), 81);
@@ -1210,6 +1366,10 @@ public final class Promises {
         due("no shop", x.goes(-1, 0, 0), -1);
         due("below", x.goes(0, -1, 0), -4);
         due("above", x.goes(0, 25, 0), -6);
+        due("right", x.right(0, 0, 0), 3);
+        due("person 0 goes first", x.goes(0, 24, 0), 0);
+        due("person 3 goes then", x.goes(0, 24, 1), 3);
+        x.right(0, 0, 3);
         x.list();
         x.days(15);
         x.right(3, 0, 9);
@@ -1256,6 +1416,7 @@ public final class Promises {
         due("planned", x.planned(3, 6, 63), 6);
         due("the 8th", x.planned(1, 0, 127), -6);
         due("the 8th, long", x.planned(4, 0, 0), -6);
+        due("count(16)", x.count(16), 4);
         due("the 8th, waits", x.planned(4, 0, 128), -3);
         due("plan", x.plan(), 4);
         due("place", x.placeOf(5), 3);
@@ -1265,6 +1426,10 @@ public final class Promises {
         for (int i = 0; i < 7; i++) y.planned(3, 0, i == 0 ? 0 : 1 << (i - 1));
         due("a chain", y.plan(), 21);
         for (int i = 0; i < 7; i++) due("place", y.placeOf(i), i);
+        WorksCouncil w = new WorksCouncil();
+        w.planned(1, 0, 0);
+        w.planned(1, 0, 1);
+        due("room is left, but it waits", w.plan(), 1);
         WorksCouncil z = new WorksCouncil();
         z.planned(3, 6, 0);
         z.planned(3, 0, 0);
@@ -1376,6 +1541,7 @@ public final class Promises {
         termsAndMatters();
         papers();
         states();
+        lettingsOfNo();
         seats();
         sessions();
         votesOnMatters();
@@ -1390,6 +1556,7 @@ public final class Promises {
         urgentDeeds();
         shifts();
         wishes();
+        searchesApart();
         bars();
         pieces();
         points();

@@ -15,7 +15,7 @@ public final class RandomRuns {
     private static final String[] THEMES = {
         "open paper state withdraw days matterOf term feast kind check put session vote voids sessionOf sit",
         "session vote voids board court state days open paper agree worth deed deedOf hang check put",
-        "agree cancel worth contract after agreementOf board court session vote voids open days count withdraw",
+        "agree agree cancel worth worth contract after agreementOf board court session vote voids open open days count withdraw",
         "deed deedOf hang open paper withdraw session vote voids board court days state count feast",
         "feed act strike kind open days person leave elect votes feed act kind",
         "need wish shifts shiftOf bars set person leave wish wish wish",
@@ -71,7 +71,7 @@ public final class RandomRuns {
         }
         for (int what = 0; what < 8 && theme != 5 && theme != 7; what++) {
             if (random.nextInt(4) != 0) {
-                feedText((char) ('A' + what) + "" + (theme == 4 ? random.nextInt(5) : 1 + random.nextInt(4)) + ":1>0");
+                feedText((char) ('A' + what) + "" + (theme == 4 ? random.nextInt(5) : theme == 2 ? 3 : 1 + random.nextInt(4)) + ":1>0");
                 play("act", 0);
             }
         }
@@ -79,6 +79,11 @@ public final class RandomRuns {
             play("term", kind, 0, random.nextInt(2) == 0 ? 0 : 1 << random.nextInt(3));
             play("term", kind, 1, random.nextInt(5));
             play("term", kind, 2, random.nextInt(2));
+        }
+        if (theme == 2) {
+            play("term", 3, 0, 0);
+            play("term", 3, 1, random.nextInt(2));
+            play("term", 3, 2, 1);
         }
         for (int shop = 0; shop < 6; shop++) play("votes", shop, random.nextInt(4) == 0 ? 0 : random.nextInt(12));
         play("elect", 1 + random.nextInt(6));
